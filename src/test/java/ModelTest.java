@@ -2,8 +2,11 @@ import java.util.Random;
 
 /** Runs of random calls on the program and on the plain model: both must always answer alike. */
 public final class ModelTest {
-    private static final int RUNS = 3000;
+    private static final int RUNS = 8000;
+    /** No more are promised of one object. */
     private static final int CALLS = 512;
+    /** One step of a run makes some calls more before it ends. */
+    private static final int CALLS_OF_A_STEP = 100;
     private static final int MOST_HANDS_TRIED_OUT = 9;
 
     private final Due due;
@@ -14,6 +17,7 @@ public final class ModelTest {
     private final int looks;
     private final int places;
     private final int names;
+    private int calls;
 
     private ModelTest(Due due, int run) {
         this.due = due;
@@ -28,14 +32,16 @@ public final class ModelTest {
         Due due = new Due("ModelTest");
         for (int run = 0; run < RUNS; run++) {
             ModelTest test = new ModelTest(due, run);
-            for (int i = 0; i < CALLS; i++) {
-                test.call();
+            test.begin();
+            while (test.calls < CALLS - CALLS_OF_A_STEP) {
+                test.step();
             }
         }
         due.end();
     }
 
     private void is(String call, int want, int got) {
+        calls++;
         due.is("run " + run + ": " + call, want, got);
     }
 
@@ -68,19 +74,26 @@ public final class ModelTest {
 
     private int sizeOf(int look) {
         int size = 0;
-        while (size < 8 && desk.look(look, size) >= 0) {
-            model.look(look, size);
+        while (size < 8 && model.has(look, size)) {
             size++;
-        }
-        if (size < 8) {
-            model.look(look, size);
         }
         return size;
     }
 
-    private void call() {
+    private void begin() {
+        int pieces = 2 + random.nextInt(30);
+        for (int i = 0; i < pieces; i++) {
+            piece();
+        }
+        int worn = random.nextInt(60);
+        for (int i = 0; i < worn; i++) {
+            wearOrBare();
+        }
+    }
+
+    private void step() {
         int n = random.nextInt(100);
-        if (n < 12) {
+        if (n < 4) {
             piece();
         } else if (n < 30) {
             wearOrBare();
@@ -107,6 +120,9 @@ public final class ModelTest {
         int size = 10 * (30 + to(31)) + to(7);
         is("piece(" + how + ", " + seconds + ", " + size + ")",
             model.piece(how, seconds, size), desk.piece(how, seconds, size));
+        if (random.nextBoolean()) {
+            return;
+        }
         int p = aPiece();
         int what = to(10);
         is("about(" + p + ", " + what + ")", model.about(p, what), desk.about(p, what));
@@ -122,6 +138,9 @@ public final class ModelTest {
         }
         int p = aPiece();
         is("wear(" + l + ", " + p + ")", model.wear(l, p), desk.wear(l, p));
+        if (random.nextBoolean()) {
+            return;
+        }
         int i = to(8);
         is("look(" + l + ", " + i + ")", model.look(l, i), desk.look(l, i));
     }
@@ -164,7 +183,7 @@ public final class ModelTest {
     }
 
     private void checked(int a, int b, int beneath) {
-        if (random.nextInt(3) == 0 || model.allowed(a, b, beneath) != 1 | desk.allowed(a, b, beneath) != 1) {
+        if (random.nextInt(3) == 0 || !model.allows(a, b, beneath)) {
             is("check(" + a + ", " + b + ", " + beneath + ")",
                 model.check(a, b, beneath), desk.check(a, b, beneath));
             return;

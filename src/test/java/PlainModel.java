@@ -142,6 +142,11 @@ final class PlainModel {
         return in(i, 0, looks.get(look).size() - 1) ? looks.get(look).get(i) : finding(2);
     }
 
+    /** No call: whether there is a PIECE i of a LOOK. */
+    boolean has(int look, int i) {
+        return i < looks.get(look).size();
+    }
+
     int limit(int v) {
         if (!in(v, 1, 30)) {
             return finding(1);
@@ -279,6 +284,11 @@ final class PlainModel {
             shared++;
         }
         return Math.max(shared, most);
+    }
+
+    /** No call: whether it is a CHANGE that is ALLOWED. */
+    boolean allows(int a, int b, int beneath) {
+        return isChange(a, b, beneath) && isAllowed(looks.get(a), looks.get(b), chosen(looks.get(b), beneath));
     }
 
     int allowed(int a, int b, int beneath) {
