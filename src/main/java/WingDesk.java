@@ -655,14 +655,13 @@ public final class WingDesk {
         private int sizeB;
         private int wigsA;
         private int wigsB;
-        private int notInB;
+        /** Bits of those of a that come off whatever lies beneath. */
+        private int surelyOff;
         /** Of each of a: its index in b, and of each of b: its index in a; or -1. */
         private final int[] inB = new int[ROW];
         private final int[] inA = new int[ROW];
         /** Of each of a: bits of those of a over which it lies. */
         private final int[] under = new int[ROW];
-        /** Of each of a: bits of those of a over which it lies, though b wants it under them. */
-        private final int[] crossed = new int[ROW];
         /** Of each of b: bits of those of b with its place that are ahead of it. */
         private final int[] ahead = new int[ROW];
         /** Of each of b: how thick all of a and of b up to it are at its place. */
@@ -686,7 +685,7 @@ public final class WingDesk {
             sizeB = looks.sizeOf(b);
             wigsA = wigsOf(a);
             wigsB = wigsOf(b);
-            notInB = 0;
+            surelyOff = 0;
             for (int i = 0; i < sizeA; i++) {
                 prepareWorn(a, b, i);
             }
@@ -700,16 +699,22 @@ public final class WingDesk {
             offSeconds[i] = wardrobe.fact(p, OFF);
             inB[i] = looks.indexOf(b, p);
             under[i] = aheadAtPlace(a, i);
-            crossed[i] = 0;
-            if (inB[i] < 0) {
-                notInB |= 1 << i;
-                return;
+            if (inB[i] < 0 || isWantedUnder(i)) {
+                surelyOff |= 1 << i;
             }
+        }
+
+        /**
+         * Whether it lies over one that b wants over it. If that one stays it comes off
+         * as the later one of the two, and if that one comes off, as lying over it.
+         */
+        private boolean isWantedUnder(int i) {
             for (int k = 0; k < i; k++) {
                 if (hasBit(under[i], k) && inB[k] > inB[i]) {
-                    crossed[i] |= 1 << k;
+                    return true;
                 }
             }
+            return false;
         }
 
         private void prepareWanted(int a, int b, int j) {
@@ -768,7 +773,7 @@ public final class WingDesk {
 
         /** Each round but the last takes at least one more of a off: ROW rounds are enough. */
         void handle(int beneath) {
-            off = notInB;
+            off = surelyOff;
             on = missing(beneath);
             for (int round = 0; round < ROW; round++) {
                 int more = forcedOff();
@@ -802,9 +807,7 @@ public final class WingDesk {
 
         private boolean mustComeOff(int i) {
             int j = inB[i];
-            return (under[i] & off) != 0
-                    || (crossed[i] & ~off) != 0
-                    || j >= 0 && (ahead[j] & on) != 0;
+            return (under[i] & off) != 0 || j >= 0 && (ahead[j] & on) != 0;
         }
 
         int secondsWith(int hands) {
