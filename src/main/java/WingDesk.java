@@ -264,7 +264,8 @@ public final class WingDesk {
             return finding(BEYOND);
         }
         int sum = 0;
-        for (int i = 0; i < looks.sizeOf(look); i++) {
+        int worn = looks.sizeOf(look);
+        for (int i = 0; i < worn; i++) {
             sum += costTonight(look, i, size);
         }
         return sum;
@@ -428,7 +429,8 @@ public final class WingDesk {
         int p = looks.at(look, i);
         int away = wardrobe.sizesAway(p, size);
         int ahead = 0;
-        for (int k = 0; k < looks.sizeOf(look); k++) {
+        int worn = looks.sizeOf(look);
+        for (int k = 0; k < worn; k++) {
             int q = looks.at(look, k);
             int awayToo = wardrobe.sizesAway(q, size);
             if (wardrobe.areAlike(p, q) && (awayToo > away || awayToo == away && k < i)) {
@@ -440,8 +442,8 @@ public final class WingDesk {
 
     private int countSpares(int p, int size) {
         int spares = 0;
-        for (int q = 0; q < wardrobe.count; q++) {
-            if (wardrobe.areAlike(p, q) && wardrobe.sizesAway(q, size) == 0
+        for (int q = 0; q < PIECES; q++) {
+            if (wardrobe.has(q) && wardrobe.areAlike(p, q) && wardrobe.sizesAway(q, size) == 0
                     && wardrobe.fact(q, WHERE) == ON_RAIL && looks.isInNone(q)) {
                 spares++;
             }
@@ -450,13 +452,15 @@ public final class WingDesk {
     }
 
     private void dressForChange(int a, int b, int beneath) {
+        int sizeA = looks.sizeOf(a);
+        int sizeB = looks.sizeOf(b);
         body.undress();
-        for (int j = 0; j < looks.sizeOf(b); j++) {
+        for (int j = 0; j < sizeB; j++) {
             if (hasBit(beneath, j)) {
                 body.putOn(looks.at(b, j));
             }
         }
-        for (int i = 0; i < looks.sizeOf(a); i++) {
+        for (int i = 0; i < sizeA; i++) {
             body.putOn(looks.at(a, i));
         }
     }
@@ -601,7 +605,8 @@ public final class WingDesk {
 
         /** -1 if the piece isn't in it. */
         int indexOf(int look, int p) {
-            for (int i = 0; i < sizeOf(look); i++) {
+            int size = sizeOf(look);
+            for (int i = 0; i < size; i++) {
                 if (at(look, i) == p) {
                     return i;
                 }
@@ -749,7 +754,8 @@ public final class WingDesk {
 
         private int wigsOf(int look) {
             int bits = 0;
-            for (int i = 0; i < looks.sizeOf(look); i++) {
+            int size = looks.sizeOf(look);
+            for (int i = 0; i < size; i++) {
                 if (wardrobe.fact(looks.at(look, i), OF_KIND) == WIG) {
                     bits |= 1 << i;
                 }
@@ -969,7 +975,8 @@ public final class WingDesk {
 
         private int sendOn(int s) {
             int sent = 0;
-            for (int hand = 0; hand < show.handsOf(s); hand++) {
+            int hands = show.handsOf(s);
+            for (int hand = 0; hand < hands; hand++) {
                 int last = search(s);
                 if (last < 0) {
                     return sent;
