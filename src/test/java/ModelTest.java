@@ -89,6 +89,38 @@ public final class ModelTest {
         for (int i = 0; i < worn; i++) {
             wearOrBare();
         }
+        if (random.nextInt(12) == 0) {
+            fullShow();
+        }
+    }
+
+    /** As many shifts as there may be, close to one another, in any order, with ways that part them. */
+    private void fullShow() {
+        int doors = 1 + random.nextInt(6);
+        int span = 20 + random.nextInt(200);
+        for (int i = 0; i < 12; i++) {
+            way(random.nextInt(doors), random.nextInt(6), random.nextInt(span));
+            int from = random.nextInt(span);
+            shift(random.nextInt(doors), from, from + 1 + random.nextInt(20), random.nextInt(4));
+            dressers();
+        }
+    }
+
+    private void way(int a, int b, int way) {
+        is("way(" + a + ", " + b + ", " + way + ")", model.way(a, b, way), desk.way(a, b, way));
+    }
+
+    private void shift(int how, int from, int up, int hands) {
+        is("shift(" + how + ", " + from + ", " + up + ", " + hands + ")",
+            model.shift(how, from, up, hands), desk.shift(how, from, up, hands));
+    }
+
+    private void dressers() {
+        int got = desk.dressers();
+        is("dressers()", model.dressers(), got);
+        if (model.handsInAll() <= MOST_HANDS_TRIED_OUT) {
+            is("dressers() tried out", model.dressersTriedOut(), got);
+        }
     }
 
     private void step() {
@@ -208,9 +240,7 @@ public final class ModelTest {
                 int how = 1000 * to(looks) + 10 * to(looks) + to(6);
                 int from = to(random.nextBoolean() ? 200 : 20001);
                 int up = from + 1 + to(random.nextBoolean() ? 40 : 400);
-                int hands = to(4);
-                is("shift(" + how + ", " + from + ", " + up + ", " + hands + ")",
-                    model.shift(how, from, up, hands), desk.shift(how, from, up, hands));
+                shift(how, from, up, to(4));
                 break;
             case 1:
                 if (random.nextInt(3) == 0) {
@@ -218,21 +248,14 @@ public final class ModelTest {
                 }
                 break;
             case 2:
-                int a = to(6);
-                int b = to(6);
-                int way = to(random.nextBoolean() ? 60 : 601);
-                is("way(" + a + ", " + b + ", " + way + ")", model.way(a, b, way), desk.way(a, b, way));
+                way(to(6), to(6), to(random.nextBoolean() ? 60 : 601));
                 break;
             case 3:
                 int s = to(Math.max(1, model.count(1)));
                 is("fits(" + s + ")", model.fits(s), desk.fits(s));
                 break;
             default:
-                int got = desk.dressers();
-                is("dressers()", model.dressers(), got);
-                if (model.handsInAll() <= MOST_HANDS_TRIED_OUT) {
-                    is("dressers() tried out", model.dressersTriedOut(), got);
-                }
+                dressers();
         }
     }
 
