@@ -292,7 +292,7 @@ public final class WingDesk {
             return finding(STATE);
         }
         dressForChange(a, b, beneath);
-        for (int i = 0; i < handlings; i++) {
+        for (int i = 0; i < handlings && i < WAITING; i++) {
             if (!body.handle(waiting[i])) {
                 return 1 + i;
             }
@@ -600,7 +600,7 @@ public final class WingDesk {
 
         /** -1 where there is none. */
         int at(int look, int i) {
-            return has(look) && i >= 0 && i < sizes[look] ? rows[look * ROW + i] : -1;
+            return has(look) && i >= 0 && i < ROW && i < sizes[look] ? rows[look * ROW + i] : -1;
         }
 
         /** -1 if the piece isn't in it. */
@@ -686,8 +686,8 @@ public final class WingDesk {
         }
 
         void prepare(int a, int b) {
-            sizeA = looks.sizeOf(a);
-            sizeB = looks.sizeOf(b);
+            sizeA = Math.min(ROW, looks.sizeOf(a));
+            sizeB = Math.min(ROW, looks.sizeOf(b));
             wigsA = wigsOf(a);
             wigsB = wigsOf(b);
             surelyOff = 0;

@@ -1,30 +1,40 @@
 /** Holds answers against those that are due, and ends the program with 1 if one was wrong. */
 final class Due {
-    static final int LOW = -1000000;
-    static final int BEYOND = LOW - 1;
-    static final int NONE = LOW - 2;
-    static final int STATE = LOW - 3;
-    static final int FULL = LOW - 4;
-    static final int KIND = LOW - 5;
-
-    private final String test;
+    private String sentence = "";
+    private int sentences;
+    private int askedOfSentence;
     private int asked;
     private int wrong;
 
-    Due(String test) {
-        this.test = test;
+    /** What comes next tries this sentence of the document; the one before must have been tried. */
+    void sentence(String words) {
+        endSentence();
+        sentence = words;
+        sentences++;
+        askedOfSentence = 0;
+    }
+
+    private void endSentence() {
+        if (sentences > 0 && askedOfSentence == 0) {
+            wrong++;
+            System.out.println("[" + sentence + "] has no answer that is held against it");
+        }
     }
 
     void is(String call, long want, long got) {
         asked++;
+        askedOfSentence++;
         if (got != want) {
             wrong++;
-            System.out.println(test + ": " + call + " answered " + got + ", due is " + want);
+            String of = sentence.isEmpty() ? "" : "[" + sentence + "] ";
+            System.out.println(of + call + " answered " + got + ", due is " + want);
         }
     }
 
-    void end() {
-        System.out.println(test + ": " + asked + " answers, " + wrong + " wrong");
+    void end(String test) {
+        endSentence();
+        String of = sentences == 0 ? "" : sentences + " sentences, ";
+        System.out.println(test + ": " + of + asked + " answers, " + wrong + " wrong");
         if (wrong != 0) {
             System.exit(1);
         }

@@ -20,7 +20,7 @@ public final class FaceTest {
     private static final int MOST_FIELDS = 20;
     private static final int MOST_PARAMETERS = 7;
 
-    private static final Due DUE = new Due("FaceTest");
+    private static final Due DUE = new Due();
 
     public static void main(String[] args) throws IOException {
         face();
@@ -34,8 +34,9 @@ public final class FaceTest {
         }
         DUE.is("at most " + MOST_CLASSES + " classes", 1, bit(classes <= MOST_CLASSES));
         words(Files.readString(SOURCE));
+        headings(Files.readString(SOURCE));
         lengths(Files.readString(SOURCE));
-        DUE.end();
+        DUE.end("FaceTest");
     }
 
     private static int bit(boolean is) {
@@ -117,6 +118,21 @@ public final class FaceTest {
         DUE.is("imports but Arrays", 0,
             Pattern.compile("\\bimport\\s+(?!java\\.util\\.Arrays;)").matcher(code).results().count());
         DUE.is("signs above 126", 0, source.chars().filter(c -> c > 126).count());
+    }
+
+    /** What the interface says ahead of its calls, and the calls in the document's order. */
+    private static void headings(String source) {
+        String[] due = {"// ---- pieces and looks\n", " piece(", " as(", " about(", " wear(", " bare(", " look(", " limit(",
+            "// ---- changes\n", " allowed(", " told(", " seconds(", " best(",
+            "// ---- the show\n", " shift(", " less(", " way(", " fits(", " dressers(",
+            "// ---- the wash\n", " worn(", " wash(", " hours(", "// ---- tonight\n", " tonight(",
+            "// ---- what is told\n", " tell(", " check(", " count(", " found("};
+        int at = 0;
+        for (String words : due) {
+            int next = source.indexOf(words.startsWith(" ") ? "    public int" + words : words, at);
+            DUE.is(words.strip() + " stands in its order", 1, bit(next >= 0));
+            at = Math.max(at, next);
+        }
     }
 
     /** A method goes from its line with a brace, eight or four blanks in, up to the brace below it. */

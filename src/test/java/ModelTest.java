@@ -29,7 +29,7 @@ public final class ModelTest {
     }
 
     public static void main(String[] args) {
-        Due due = new Due("ModelTest");
+        Due due = new Due();
         for (int run = 0; run < RUNS; run++) {
             ModelTest test = new ModelTest(due, run);
             test.begin();
@@ -37,7 +37,7 @@ public final class ModelTest {
                 test.step();
             }
         }
-        due.end();
+        due.end("ModelTest");
     }
 
     private void is(String call, int want, int got) {

@@ -14,7 +14,7 @@ public final class NeverThrowsTest {
         6060, 11115, 15550, 20000, 20001, 100000, Integer.MAX_VALUE - 1, Integer.MAX_VALUE};
 
     public static void main(String[] args) throws IllegalAccessException {
-        Due due = new Due("NeverThrowsTest");
+        Due due = new Due();
         Method[] methods = Arrays.stream(WingDesk.class.getDeclaredMethods())
             .filter(m -> Modifier.isPublic(m.getModifiers()))
             .sorted(Comparator.comparing(Method::getName))
@@ -26,7 +26,7 @@ public final class NeverThrowsTest {
                 call(due, desk, methods[random.nextInt(methods.length)], random);
             }
         }
-        due.end();
+        due.end("NeverThrowsTest");
     }
 
     private static void call(Due due, WingDesk desk, Method method, Random random) throws IllegalAccessException {
@@ -37,7 +37,7 @@ public final class NeverThrowsTest {
         String call = method.getName() + Arrays.toString(arguments);
         try {
             int answer = (Integer) method.invoke(desk, arguments);
-            boolean finding = answer >= Due.KIND && answer <= Due.BEYOND;
+            boolean finding = answer >= Wings.KIND && answer <= Wings.BEYOND;
             due.is(call + " is a finding or a number (" + answer + ")", 1,
                 finding || answer >= 0 && answer <= 100107 ? 1 : 0);
         } catch (InvocationTargetException thrown) {

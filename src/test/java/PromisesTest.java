@@ -1,15 +1,5 @@
 /** The promises one by one: ordinary inputs, the edges that the document names, and wrong inputs. */
-public final class PromisesTest {
-    private static final int BEYOND = Due.BEYOND;
-    private static final int NONE = Due.NONE;
-    private static final int STATE = Due.STATE;
-    private static final int FULL = Due.FULL;
-    private static final int KIND = Due.KIND;
-    private static final int LEAST = Integer.MIN_VALUE;
-    private static final int MOST = Integer.MAX_VALUE;
-
-    private static final Due DUE = new Due("PromisesTest");
-
+public final class PromisesTest extends Wings {
     public static void main(String[] args) {
         newObject();
         piece();
@@ -44,37 +34,7 @@ public final class PromisesTest {
         count();
         found();
         findingsChangeNothing();
-        DUE.end();
-    }
-
-    private static void is(String call, int want, int got) {
-        DUE.is(call, want, got);
-    }
-
-    /** A desk with a piece for each of these hows, ON 10 and OFF 5 (of a TEAR 1), SIZE 40. */
-    private static WingDesk deskWith(int... hows) {
-        WingDesk desk = new WingDesk();
-        for (int how : hows) {
-            desk.piece(how, how % 10 == 2 ? 1001 : 1005, 400);
-        }
-        return desk;
-    }
-
-    private static void wearAll(WingDesk desk, int look, int... pieces) {
-        desk.bare(look);
-        for (int p : pieces) {
-            desk.wear(look, p);
-        }
-    }
-
-    private static void tellAll(WingDesk desk, int... handlings) {
-        for (int v : handlings) {
-            desk.tell(v);
-        }
-    }
-
-    private static int off(int p) {
-        return -1 - p;
+        DUE.end("PromisesTest");
     }
 
     // ---- promise 1
