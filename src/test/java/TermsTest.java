@@ -241,10 +241,13 @@ public final class TermsTest extends Wings {
         wearAll(desk, 2, 2);
         is("below SIZE", 10, desk.tonight(0, 39));
         is("SIZE", 0, desk.tonight(0, 40));
+        is("between them, nearer to SIZE", 0, desk.tonight(0, 41));
+        is("between them, nearer to SIZE and SPAN", 0, desk.tonight(0, 42));
         is("SIZE and SPAN", 0, desk.tonight(0, 43));
         is("above SIZE and SPAN", 10, desk.tonight(0, 44));
         is("SPAN 0: SIZE", 0, desk.tonight(1, 30));
         is("SPAN 0: above SIZE", 10, desk.tonight(1, 31));
+        is("in the middle of the most SPAN", 0, desk.tonight(2, 63));
         is("the most SIZE and SPAN", 0, desk.tonight(2, 66));
     }
 
