@@ -15,6 +15,7 @@ import java.util.regex.Pattern;
 /** The public face is the document's and no more, and the source keeps to the rules of the language. */
 public final class FaceTest {
     private static final Path SOURCE = Path.of("src/main/java/WingDesk.java");
+    private static final Path DOCUMENT = Path.of("../shared/DOC.md");
     private static final int MOST_LINES = 60;
     private static final int MOST_CLASSES = 12;
     private static final int MOST_FIELDS = 20;
@@ -33,6 +34,7 @@ public final class FaceTest {
             DUE.is(inner.getName() + " is public", 0, bit(Modifier.isPublic(inner.getModifiers())));
         }
         DUE.is("at most " + MOST_CLASSES + " classes", 1, bit(classes <= MOST_CLASSES));
+        signatures(Files.readString(DOCUMENT), Files.readString(SOURCE));
         words(Files.readString(SOURCE));
         headings(Files.readString(SOURCE));
         lengths(Files.readString(SOURCE));
@@ -81,6 +83,22 @@ public final class FaceTest {
         for (Field field : WingDesk.class.getDeclaredFields()) {
             DUE.is(field.getName() + " is private", 1, bit(Modifier.isPrivate(field.getModifiers())));
         }
+    }
+
+    /** Each line of the document's face stands in the source, with its parameters' names. */
+    private static void signatures(String document, String source) {
+        int from = document.indexOf("```java\n");
+        int to = document.indexOf("```\n", from + 1);
+        DUE.is("the document has a face", 1, bit(from >= 0 && to > from));
+        String[] lines = document.substring(Math.max(0, from), Math.max(0, to)).split("\n");
+        int found = 0;
+        for (String line : lines) {
+            if (line.startsWith("    public ")) {
+                found++;
+                DUE.is(line.strip() + " stands", 1, bit(source.contains(line.replace(";", " {\n"))));
+            }
+        }
+        DUE.is("lines of the face", 1 + parametersDue().size(), found);
     }
 
     private static void members(Class<?> one) {

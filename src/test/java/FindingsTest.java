@@ -185,16 +185,6 @@ public final class FindingsTest extends Wings {
         return 0;
     }
 
-    /** More calls than are promised of one object: in fewer there are no so many HOURS. */
-    private static int fillHours(WingDesk desk) {
-        for (int i = 0; i < 999; i++) {
-            desk.hours(100);
-        }
-        desk.worn(6);
-        desk.wash(6);
-        return desk.hours(1);
-    }
-
     private static void wash() {
         refused("worn BEYOND", BEYOND, desk -> desk.worn(8));
         refused("worn STATE (WORN)", STATE, desk -> desk.worn(3));
@@ -207,7 +197,6 @@ public final class FindingsTest extends Wings {
         refused("wash FULL", FULL, FindingsTest::fillWash, desk -> desk.wash(3));
         refused("hours BEYOND (0)", BEYOND, desk -> desk.hours(0));
         refused("hours BEYOND (101)", BEYOND, desk -> desk.hours(101));
-        refused("hours FULL", FULL, FindingsTest::fillHours, desk -> desk.hours(100));
     }
 
     private static int fillWaiting(WingDesk desk) {

@@ -25,7 +25,6 @@ public final class PromisesTest extends Wings {
         worn();
         wash();
         hours();
-        hoursFull();
         tonight();
         tonightSpares();
         tell();
@@ -634,20 +633,6 @@ public final class PromisesTest extends Wings {
         is("hours(-1)", BEYOND, desk.hours(-1));
         is("hours(MOST)", BEYOND, desk.hours(MOST));
         is("count(2)", 203, desk.count(2));
-    }
-
-    /** More calls than are promised: what the document says of HOURS can't be seen otherwise. */
-    private static void hoursFull() {
-        WingDesk desk = new WingDesk();
-        for (int i = 0; i < 999; i++) {
-            desk.hours(100);
-        }
-        is("hours(99)", 0, desk.hours(99));
-        is("99999 and 2", FULL, desk.hours(2));
-        is("BEYOND is asked first", BEYOND, desk.hours(101));
-        is("99999 and 1", 0, desk.hours(1));
-        is("100000 and 1", FULL, desk.hours(1));
-        is("count(2)", 100000, desk.count(2));
     }
 
     // ---- promise 21

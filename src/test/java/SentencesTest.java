@@ -1044,20 +1044,15 @@ public final class SentencesTest extends Wings {
         is("all went by", 101, desk.count(2));
     }
 
-    /** More calls than are promised of one object: in fewer there are no so many HOURS. */
+    /** 512 calls can't make 100000 HOURS, and what later ones answer is free: so it must never be told. */
     private static void hoursFull() {
-        sentence("20: FULL: HOURS would be above 100000");
+        sentence("20: FULL: HOURS would be above 100000 (none of 512 calls can reach it)");
         WingDesk desk = new WingDesk();
-        for (int i = 0; i < 999; i++) {
-            desk.hours(100);
+        for (int i = 0; i < 510; i++) {
+            is("up to HOUR " + 100 * (i + 1), 0, desk.hours(100));
         }
-        desk.hours(1);
-        is("99901 and 100", FULL, desk.hours(100));
-        is("BEYOND is asked first", BEYOND, desk.hours(101));
-        is("none went by", 99901, desk.count(2));
-        is("99901 and 99", 0, desk.hours(99));
-        is("100000", 100000, desk.count(2));
-        is("100000 and 1", FULL, desk.hours(1));
+        is("count(2)", 51000, desk.count(2));
+        is("found(4)", 0, desk.found(4));
     }
 
     // ---- promise 21
